@@ -13,10 +13,12 @@ public final class CallsAndWhatIfTest {
         promise37CallTargets();
         promise38CallersOf();
         promise39UncalledFunctions();
+        callsAtTheEnds();
         promise40FactCountIfToggled();
         promise41FactCountWithout();
         promise42MostInfluentialConstraint();
         promise43RedundantConstraintCount();
+        trialsGoThroughAllRounds();
         trialsChangeNothing();
         CHECKS.end();
     }
@@ -73,6 +75,22 @@ public final class CallsAndWhatIfTest {
         x.undo();
         due("39 f and h by the other call", x.uncalledFunctions(), 9);
         due("39 no functions", Texts.solve("new a b;").uncalledFunctions(), 0);
+    }
+
+    private static void callsAtTheEnds() {
+        PointsToSolver x = Texts.solve("call a x b;new x f;fun f p r;fun g p r;new y g;"
+            + "new y n;".repeat(26) + "call a y b;");
+        due("8 all thirty", x.constraintCount(), 30);
+        due("37 the first constraint", x.callTargets(0), 1);
+        due("37 the last constraint", x.callTargets(29), 2);
+        due("38 by the first constraint", x.callersOf(0), 1);
+        due("38 by the last constraint", x.callersOf(1), 1 << 29);
+        due("39 both are called", x.uncalledFunctions(), 0);
+        x.setEnabled(0, false);
+        due("39 the first is not", x.uncalledFunctions(), 1);
+        x.undo();
+        x.setEnabled(29, false);
+        due("39 the last is not", x.uncalledFunctions(), 2);
     }
 
     private static void promise40FactCountIfToggled() {
@@ -133,6 +151,23 @@ public final class CallsAndWhatIfTest {
         PointsToSolver used = Texts.solve("copy z y;copy z x;new x o;new y o;");
         due("43 either copy, and no other", used.redundantConstraintCount(), 2);
         due("43 of nothing", new PointsToSolver().redundantConstraintCount(), 0);
+    }
+
+    private static void trialsGoThroughAllRounds() {
+        PointsToSolver copies = Texts.solve("copy e d;copy d c;copy c b;copy b a;new a o;new z p;");
+        due("41 copies against the order", copies.factCountWithout(32), 5);
+        due("40 copies against the order", copies.factCountIfToggled(5), 5);
+        PointsToSolver loads = Texts.solve("load d x f;load c x g;store x g b;store x f c;"
+            + "new x o;new b p;new a p;copy d d;");
+        due("15 loads against the order", loads.factCount(), 7);
+        due("41 loads against the order", loads.factCountWithout(64), 6);
+        PointsToSolver calls = Texts.solve(
+            "call d x c;call c x b;fun f p p;new x f;new b n;new z n;");
+        due("15 calls against the order", calls.factCount(), 6);
+        due("41 calls against the order", calls.factCountWithout(16), 5);
+        PointsToSolver wide = Texts.solve("new a o;new a p;copy b a;new b q;copy a b;new c o;");
+        due("15 sets that grow", wide.factCount(), 7);
+        due("41 sets that grow", wide.factCountWithout(32), 6);
     }
 
     private static void trialsChangeNothing() {

@@ -183,6 +183,10 @@ public final class ChangesTest {
         due("51 facts", x.factCount(), 2);
         due("51 no history", x.undoDepth(), 0);
         due("51 nothing to undo", x.undo(), ABSENT);
+        x.saveSnapshot(0);
+        for (int slot : new int[] {2, 31, 32, 33, -1, -31, -32}) {
+            due("51 slot " + slot + " when both are full", x.restoreSnapshot(slot), false);
+        }
         x.addConstraint(CALL, 0, 0, 0);
         due("51 the snapshot is still there", x.restoreSnapshot(1), true);
         due("51 and unchanged", x.constraintCount(), 3);

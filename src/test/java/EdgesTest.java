@@ -87,6 +87,7 @@ public final class EdgesTest {
         due("34 a copy to itself makes no cycle", own.cyclicComponentCount(), 0);
         due("35 variables and a field", own.condensedNodeCount(), 3);
         due("36 a load", own.condensedEdgeCount(), 1);
+        due("36 to the first location", Texts.solve("copy a b;").condensedEdgeCount(), 1);
         PointsToSolver all = Texts.solve("call a b c;call d e f;call g h i;call j k l;"
             + "call m n o;copy p p;new a a;new a b;new a c;new a d;new a e;new a f;new a g;"
             + "new a h;new a i;new a j;load p a a;load p a b;load p a c;load p a d;");

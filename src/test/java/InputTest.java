@@ -15,6 +15,7 @@ public final class InputTest {
         promise3FirstErrorCounts();
         promise3ReplacesTheProgram();
         promise3ErrorLeavesTheProgram();
+        promise3ErrorLeavesNoTrace();
         promise4BufferLength();
         CHECKS.end();
     }
@@ -256,6 +257,23 @@ public final class InputTest {
         CHECKS.dueText("3 dump after an error", Texts.dump(x), "x o;y o;");
         CHECKS.due("3 restore after an error", x.restoreSnapshot(1), true);
         CHECKS.dueText("3 dump after an error", Texts.dump(x), "x o;");
+    }
+
+    private static void promise3ErrorLeavesNoTrace() {
+        PointsToSolver x = new PointsToSolver();
+        String wrong = "new a b;fun b c d;load e f g;copy g h;?";
+        for (int parse = 0; parse < 3; parse++) {
+            due("3 an error", Texts.parse(x, wrong), -2 - (8 * 38 + SYNTAX));
+            due("3 a text after it", Texts.parse(x, "new x o;"), 1);
+            due("3 its variables", x.variableCount(), 1);
+            due("3 its objects", x.objectCount(), 1);
+            due("3 its fields", x.fieldCount(), 0);
+            due("3 its functions", x.functions(), 0);
+            due("3 its enabled constraints", x.enabledConstraints(), 1);
+            due("3 a fun after it", Texts.parse(x, "fun b x y;fun o x y;"), 0);
+            due("3 its functions", x.functions(), 3);
+            due("3 its enabled constraints", x.enabledConstraints(), 0);
+        }
     }
 
     private static void promise4BufferLength() {
