@@ -18,6 +18,8 @@ public final class ChangesTest {
         promise50SaveSnapshot();
         promise51RestoreSnapshot();
         snapshotsAndUndo();
+        undoOfTheOnlyConstraint();
+        snapshotOfThirty();
         CHECKS.end();
     }
 
@@ -210,5 +212,33 @@ public final class ChangesTest {
         y.saveSnapshot(0);
         y.parse(0);
         due("51 after parse(0)", y.restoreSnapshot(0), false);
+    }
+
+    private static void undoOfTheOnlyConstraint() {
+        PointsToSolver x = Texts.solve("fun o p r;");
+        due("46 the first constraint", x.addConstraint(NEW, 1, 0, ABSENT), 0);
+        due("46 its fact", x.factCount(), 1);
+        due("48 its undoing", x.undo(), 0);
+        due("48 leaves no constraint", x.constraintCount(), 0);
+        due("48 none that is enabled", x.enabledConstraints(), 0);
+        due("48 and no fact", x.factCount(), 0);
+        due("46 the first constraint again", x.addConstraint(COPY, 0, 1, ABSENT), 0);
+        due("46 it is the copy", x.kindOf(0), COPY);
+    }
+
+    private static void snapshotOfThirty() {
+        PointsToSolver x = Texts.solve(SMALL + "new x o;".repeat(26));
+        x.addConstraint(STORE, 1, 0, 2);
+        x.saveSnapshot(0);
+        x.undo();
+        x.addConstraint(CALL, 0, 2, 1);
+        x.saveSnapshot(1);
+        x.restoreSnapshot(0);
+        due("51 all thirty", x.constraintCount(), 30);
+        due("51 the thirtieth", x.kindOf(29), STORE);
+        due("51 its operands", x.operand(29, 0) * 100 + x.operand(29, 1) * 10 + x.operand(29, 2), 102);
+        x.restoreSnapshot(1);
+        due("51 the other thirtieth", x.kindOf(29), CALL);
+        due("51 its operands", x.operand(29, 0) * 100 + x.operand(29, 1) * 10 + x.operand(29, 2), 21);
     }
 }

@@ -26,6 +26,7 @@ public final class DerivationsTest {
         promise27Proof();
         promise28NecessaryConstraints();
         noPairs();
+        everyFact();
         CHECKS.end();
     }
 
@@ -223,6 +224,63 @@ public final class DerivationsTest {
             due("24" + at + ", step -1", x.explanationConstraint(location, object, -1), -1);
             due("27" + at, x.proof(location, object), -1);
             due("28" + at, x.necessaryConstraints(location, object), -1);
+        }
+    }
+
+    /**
+     * All 560 facts that there can be: variable a gets each object, each variable behind it those
+     * of the one before, and field f of each object those of variable f as soon as p has them.
+     */
+    private static void everyFact() {
+        StringBuilder text = new StringBuilder();
+        for (char name = 'a'; name <= 'j'; name++) {
+            text.append("new a ").append(name).append(';');
+        }
+        for (char name = 'b'; name <= 'p'; name++) {
+            text.append("copy ").append(name).append(' ').append((char) (name - 1)).append(';');
+        }
+        for (char name = 'a'; name <= 'd'; name++) {
+            text.append("store p ").append(name).append(' ').append(name).append(';');
+        }
+        PointsToSolver whole = Texts.solve(text.toString());
+        due("15 every fact", whole.factCount(), 560);
+        due("16 with every fact", whole.roundCount(), 17);
+        for (int variable = 0; variable < 16; variable++) {
+            factsOfVariable(Texts.solve(text.toString()), variable);
+        }
+        for (int owner = 0; owner < 10; owner++) {
+            for (int field = 0; field < 4; field++) {
+                factsOfField(Texts.solve(text.toString()), owner, field);
+            }
+        }
+    }
+
+    private static void factsOfVariable(PointsToSolver x, int variable) {
+        int copies = (1 << variable) - 1 << 10;
+        for (int object = 0; object < 10; object++) {
+            String fact = " of variable " + variable + ", object " + object;
+            due("21" + fact, x.roundOf(variable, object), variable + 1);
+            due("22" + fact, x.derivationCount(variable, object), 1);
+            due("23" + fact, x.explanationLength(variable, object), variable + 1);
+            primary("24 to 26" + fact, x, variable, object,
+                variable == 0 ? object : 9 + variable, variable == 0 ? -2 : variable - 1, -2);
+            due("27" + fact, x.proof(variable, object), copies | 1 << object);
+            due("28" + fact, x.necessaryConstraints(variable, object), copies | 1 << object);
+        }
+    }
+
+    private static void factsOfField(PointsToSolver x, int owner, int field) {
+        int location = 100 + 4 * owner + field;
+        int copies = (1 << 15) - 1 << 10;
+        for (int object = 0; object < 10; object++) {
+            String fact = " of field " + field + " of object " + owner + ", object " + object;
+            int proof = 1 << 25 + field | copies | 1 << owner | 1 << object;
+            due("21" + fact, x.roundOf(location, object), 17);
+            due("22" + fact, x.derivationCount(location, object), 1);
+            due("23" + fact, x.explanationLength(location, object), field + 2);
+            primary("24 to 26" + fact, x, location, object, 25 + field, field, owner);
+            due("27" + fact, x.proof(location, object), proof);
+            due("28" + fact, x.necessaryConstraints(location, object), proof);
         }
     }
 }

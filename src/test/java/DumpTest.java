@@ -24,6 +24,8 @@ public final class DumpTest {
         dumped("copy e x;load d x f;new x o;", "e o;x o;");
         dumped("new p a;new q b;store p f q;", "p a;q b;");
         dumped("new abc abcdef;new z zz;copy z abc;", "abc abcdef;z abcdef zz;");
+        dumped("copy a b;copy c d;copy e f;copy g h;copy i j;copy k l;copy m n;copy o p;"
+            + "new p x;new a y;store a f a;store p f p;", "a y;o x;p x;");
         dumped("fun g x y;call r c a;new a o;new c g;", "x o;c g;a o;");
     }
 

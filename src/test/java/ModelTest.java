@@ -11,9 +11,22 @@ public final class ModelTest {
     private static final Checks CHECKS = new Checks();
     private static final int RUNS = 250;
     private static final int CALLS = 300;
+
+    /** An object is promised 512 calls; a text takes 31 at most to be put in and parsed. */
+    private static final int LAST_CALL = 512 - 31;
+
     private static final int RESULT_SHOWN = 20;
+
+    /** One more statement still fits into the input buffer behind a text as long as this. */
+    private static final int ENOUGH = 565;
+
     private static final String[] WRONG_PIECES = {
         ";", "x", " ", "\n", "A", "new", "fun", "abcdefg", ":", "" + (char) 200, "copy a", "fun a b c;",
+    };
+
+    /** What the names of variables, objects and fields begin with; a last letter tells them apart. */
+    private static final String[][] BEGINNINGS = {
+        {"v", "o", "f"}, {"", "", ""}, {"longe", "longe", "longe"}, {"ne", "fu", "cal"},
     };
 
     private final Lcg random;
@@ -48,7 +61,7 @@ public final class ModelTest {
 
     private void run(List<Method> queries) throws ReflectiveOperationException {
         putIn(text(random.chance(5)));
-        for (int call = 0; call < CALLS && !CHECKS.failed(); call++) {
+        for (int call = 0; call < CALLS && calls.size() <= LAST_CALL && !CHECKS.failed(); call++) {
             if (random.chance(1)) {
                 putIn(text(random.chance(50)));
             } else if (random.chance(25)) {
@@ -137,18 +150,19 @@ public final class ModelTest {
 
     /** A program, most often one with many facts; a wrong one has a piece put in or cut out. */
     private String text(boolean wrong) {
-        int variables = 1 + random.below(random.chance(10) ? 18 : 10);
-        int objects = 1 + random.below(random.chance(10) ? 12 : 6);
-        int fields = 1 + random.below(random.chance(10) ? 5 : 3);
-        int statements = 1 + random.below(random.chance(10) ? 36 : 28);
+        int variables = size(10, 16);
+        int objects = size(6, 10);
+        int fields = size(3, 4);
+        int statements = size(28, 32);
+        String[] begin = BEGINNINGS[random.below(BEGINNINGS.length)];
         StringBuilder text = new StringBuilder();
         List<String> functions = new ArrayList<>();
-        for (int statement = 0; statement < statements; statement++) {
-            String first = "v" + letter(variables);
-            String second = "v" + letter(variables);
-            String third = "v" + letter(variables);
-            String object = "o" + letter(objects);
-            String field = "f" + letter(fields);
+        for (int statement = 0; statement < statements && text.length() < ENOUGH; statement++) {
+            String first = begin[0] + letter(variables);
+            String second = begin[0] + letter(variables);
+            String third = begin[0] + letter(variables);
+            String object = begin[1] + letter(objects);
+            String field = begin[2] + letter(fields);
             switch (random.below(11)) {
                 case 0: case 1: case 2:
                     text.append("new ").append(first).append(' ').append(object);
@@ -188,6 +202,14 @@ public final class ModelTest {
             }
         }
         return text.toString();
+    }
+
+    /** Mostly a usual size, sometimes the limit, and now and then one that may be above it. */
+    private int size(int usual, int limit) {
+        if (random.chance(20)) {
+            return limit;
+        }
+        return 1 + random.below(random.chance(10) ? limit + 2 : usual);
     }
 
     private char letter(int count) {
